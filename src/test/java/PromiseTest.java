@@ -31,6 +31,8 @@ public final class PromiseTest {
         blame();
         blameAmongOutOfForce();
         follows();
+        theFirstAssignmentAlone();
+        theLastAssignmentAlone();
         orderOfRefusals();
         refusedCallsChangeNothing();
         objectsAreApart();
@@ -534,6 +536,48 @@ public final class PromiseTest {
         s.linear(-2);
         due("16: no solution without it", s.follows(no), true);
         due("16: needed for there being none", s.follows(4), false);
+    }
+
+    private static void theFirstAssignmentAlone() {
+        LazyClauseSolver s = new LazyClauseSolver();
+        hold(s, 1, 1, 1, 1);
+        s.linear(0);
+        due("9: 0 0 0 0 alone", s.solvable(), true);
+        due("13: 0 0 0 0 alone", s.after(-1), 0);
+        due("13: none after 0 0 0 0", s.after(0), NONE);
+        due("14: 0 0 0 0 alone", s.smallest(), 0);
+        due("15: 0 0 0 0 alone", s.blame(), 0);
+        for (int i = 0; i < 4; i++) {
+            due("10: 0 0 0 0 alone", s.value(i), 0);
+            due("11: 0 0 0 0 alone", s.firstWith(i, 0), 0);
+            due("12: 0 0 0 0 alone", s.values(i), 1);
+        }
+        s.clear();
+        hold(s, -1, -1, -1, -1);
+        s.linear(-1);
+        due("16: broken by 0 0 0 0 alone", s.follows(0), false);
+        s.clear();
+        s.either(0, 3, 1, 0);
+        due("5: 0 0 0 0 satisfies every either", s.after(-1), 0);
+    }
+
+    private static void theLastAssignmentAlone() {
+        LazyClauseSolver s = new LazyClauseSolver();
+        hold(s, -1, -1, -1, -1);
+        s.linear(-12);
+        due("9: 3 3 3 3 alone", s.solvable(), true);
+        due("13: 3 3 3 3 alone", s.after(-1), 255);
+        due("14: 3 3 3 3 alone", s.smallest(), -12);
+        due("15: 3 3 3 3 alone", s.blame(), 0);
+        for (int i = 0; i < 4; i++) {
+            due("10: 3 3 3 3 alone", s.value(i), 3);
+            due("11: 3 3 3 3 alone", s.firstWith(i, 3), 255);
+            due("12: 3 3 3 3 alone", s.values(i), 8);
+        }
+        s.clear();
+        hold(s, 1, 1, 1, 1);
+        s.linear(11);
+        due("16: broken by 3 3 3 3 alone", s.follows(0), false);
     }
 
     private static void orderOfRefusals() {
