@@ -33,8 +33,6 @@ public final class PromiseTest {
         follows();
         theFirstAssignmentAlone();
         theLastAssignmentAlone();
-        orderOfRefusals();
-        refusedCallsChangeNothing();
         objectsAreApart();
         check.end();
     }
@@ -45,37 +43,6 @@ public final class PromiseTest {
 
     private static void due(String what, boolean got, boolean want) {
         check.due(what, got, want);
-    }
-
-    private static void hold(LazyClauseSolver s, int a0, int a1, int a2, int a3) {
-        s.factor(0, a0);
-        s.factor(1, a1);
-        s.factor(2, a2);
-        s.factor(3, a3);
-    }
-
-    /** Makes the constraint that no assignment satisfies: 0 <= -1. */
-    private static int impossible(LazyClauseSolver s) {
-        hold(s, 0, 0, 0, 0);
-        return s.linear(-1);
-    }
-
-    /** Fills the object up to ten constraints with ones that every assignment satisfies. */
-    private static void fill(LazyClauseSolver s) {
-        for (int c = s.constraints(); c < 10; c++) {
-            s.differ(0);
-        }
-    }
-
-    /** As many calls as there are solutions, and one more: an object has only 512 in all. */
-    private static int solutions(LazyClauseSolver s) {
-        int found = 0;
-        int at = s.after(-1);
-        while (at >= 0 && found <= 256) {
-            found++;
-            at = s.after(at);
-        }
-        return found;
     }
 
     private static void constants() {
@@ -89,7 +56,7 @@ public final class PromiseTest {
         LazyClauseSolver s = new LazyClauseSolver();
         due("1: constraints", s.constraints(), 0);
         due("1: solvable", s.solvable(), true);
-        due("1: solutions", solutions(s), 256);
+        due("1: solutions", Setup.solutions(s), 256);
         due("1: smallest", s.smallest(), 0);
         due("1: blame", s.blame(), 0);
         for (int i = 0; i < 4; i++) {
@@ -99,7 +66,7 @@ public final class PromiseTest {
         }
         LazyClauseSolver zero = new LazyClauseSolver();
         due("1: linear with no factor given", zero.linear(0), 0);
-        due("1: all factors are 0", solutions(zero), 256);
+        due("1: all factors are 0", Setup.solutions(zero), 256);
     }
 
     private static void factor() {
@@ -131,25 +98,25 @@ public final class PromiseTest {
 
     private static void linear() {
         LazyClauseSolver s = new LazyClauseSolver();
-        hold(s, 5, 5, 5, 5);
+        Setup.hold(s, 5, 5, 5, 5);
         due("3: b = 61", s.linear(61), BAD_ARG);
         due("3: b = -61", s.linear(-61), BAD_ARG);
         due("3: b lowest", s.linear(LOWEST), BAD_ARG);
         due("3: b highest", s.linear(HIGHEST), BAD_ARG);
         due("3: none made", s.constraints(), 0);
         due("3: b = 60", s.linear(60), 0);
-        due("3: everything is up to 60", solutions(s), 256);
+        due("3: everything is up to 60", Setup.solutions(s), 256);
         due("3: b = 59", s.linear(59), 1);
         due("3: 3 3 3 2 still", s.after(253), 254);
         due("3: 3 3 3 3 no more", s.after(254), NONE);
 
         LazyClauseSolver low = new LazyClauseSolver();
-        hold(low, -5, -5, -5, -5);
+        Setup.hold(low, -5, -5, -5, -5);
         due("3: b = -60", low.linear(-60), 0);
         due("3: 3 3 3 3 alone", low.after(-1), 255);
 
         LazyClauseSolver mixed = new LazyClauseSolver();
-        hold(mixed, 1, -2, 3, -4);
+        Setup.hold(mixed, 1, -2, 3, -4);
         mixed.linear(-16);
         due("3: 0 - 2*2 + 0 - 4*3 = -16", mixed.after(-1), 35);
         due("3: 0 - 2*3 + 0 - 4*3 = -18", mixed.after(35), 51);
@@ -160,7 +127,7 @@ public final class PromiseTest {
 
     private static void linearKeepsItsOwnFactors() {
         LazyClauseSolver s = new LazyClauseSolver();
-        hold(s, 1, 0, 0, 0);
+        Setup.hold(s, 1, 0, 0, 0);
         s.linear(1);
         s.factor(0, 0);
         due("3: a later factor leaves it as it is", s.values(0), 3);
@@ -169,7 +136,7 @@ public final class PromiseTest {
         due("3: first of both", s.values(0), 3);
         due("3: second of both", s.values(1), 12);
         due("3: others free", s.values(2), 15);
-        due("3: number of both", solutions(s), 2 * 2 * 4 * 4);
+        due("3: number of both", Setup.solutions(s), 2 * 2 * 4 * 4);
     }
 
     private static void differ() {
@@ -185,7 +152,7 @@ public final class PromiseTest {
             LazyClauseSolver one = new LazyClauseSolver();
             due("4: number", one.differ(set), 0);
             int size = Integer.bitCount(set);
-            due("4: solutions of set " + set, solutions(one), waysOfSize[size] * freeOfSize[size]);
+            due("4: solutions of set " + set, Setup.solutions(one), waysOfSize[size] * freeOfSize[size]);
         }
         LazyClauseSolver all = new LazyClauseSolver();
         all.differ(15);
@@ -268,9 +235,9 @@ public final class PromiseTest {
     private static void force() {
         LazyClauseSolver s = new LazyClauseSolver();
         due("7: no constraint yet", s.force(0, 1), BAD_ARG);
-        hold(s, 1, 0, 0, 0);
+        Setup.hold(s, 1, 0, 0, 0);
         s.linear(1);
-        hold(s, 0, 1, 0, 0);
+        Setup.hold(s, 0, 1, 0, 0);
         s.linear(2);
         due("7: c = -1", s.force(-1, 0), BAD_ARG);
         due("7: c = 2", s.force(2, 0), BAD_ARG);
@@ -294,36 +261,36 @@ public final class PromiseTest {
         LazyClauseSolver s = new LazyClauseSolver();
         s.clear();
         due("8: a new object", s.constraints(), 0);
-        hold(s, 1, 2, -3, 4);
+        Setup.hold(s, 1, 2, -3, 4);
         s.linear(-9);
         s.differ(15);
         s.either(0, 3, 1, 0);
         s.clear();
         due("8: no constraint", s.constraints(), 0);
-        due("8: everything is a solution", solutions(s), 256);
+        due("8: everything is a solution", Setup.solutions(s), 256);
         due("8: force", s.force(0, 0), BAD_ARG);
         due("8: follows", s.follows(0), false);
         due("8: smallest by the factors still held", s.smallest(), -9);
         due("8: numbers begin at 0", s.linear(-9), 0);
         due("8: linear by the factors still held", s.after(-1), 12);
-        due("8: and no other", solutions(s), 1);
+        due("8: and no other", Setup.solutions(s), 1);
         int[] held = {1, 2, -3, 4};
         for (int i = 0; i < 4; i++) {
             due("8: factor held", s.factor(i, 0), held[i]);
         }
-        fill(s);
+        Setup.fill(s);
         s.clear();
         due("8: no longer FULL", s.differ(0), 0);
     }
 
     private static void clearForgetsTheOldConstraints() {
         LazyClauseSolver s = new LazyClauseSolver();
-        impossible(s);
+        Setup.impossible(s);
         s.differ(15);
         s.force(1, 0);
         s.clear();
         s.differ(0);
-        due("8: the new constraint 0", solutions(s), 256);
+        due("8: the new constraint 0", Setup.solutions(s), 256);
         s.differ(3);
         due("8: the new constraint 1 is in force", s.force(1, 1), 1);
         due("8: the new constraint 1", s.after(-1), 16);
@@ -333,7 +300,7 @@ public final class PromiseTest {
 
     private static void solvable() {
         LazyClauseSolver s = new LazyClauseSolver();
-        hold(s, -5, -5, -5, -5);
+        Setup.hold(s, -5, -5, -5, -5);
         s.linear(-60);
         due("9: the last assignment alone", s.solvable(), true);
         s.differ(3);
@@ -347,7 +314,7 @@ public final class PromiseTest {
 
     private static void value() {
         LazyClauseSolver s = new LazyClauseSolver();
-        hold(s, -1, 2, 0, -3);
+        Setup.hold(s, -1, 2, 0, -3);
         s.linear(-7);
         // The least solution: v0 = 0 needs 2*v1 - 3*v3 <= -7, so v3 = 3 and v1 = 0.
         int[] first = {0, 0, 0, 3};
@@ -363,7 +330,7 @@ public final class PromiseTest {
         for (int i : bad) {
             due("10: no variable " + i, s.value(i), BAD_ARG);
         }
-        impossible(s);
+        Setup.impossible(s);
         for (int i = 0; i < 4; i++) {
             due("10: no solution", s.value(i), NONE);
         }
@@ -389,13 +356,13 @@ public final class PromiseTest {
             due("11: i = " + x, s.firstWith(x, 0), BAD_ARG);
             due("11: x = " + x, s.firstWith(0, x), BAD_ARG);
         }
-        impossible(s);
+        Setup.impossible(s);
         due("11: no solution at all", s.firstWith(3, 3), NONE);
     }
 
     private static void values() {
         LazyClauseSolver s = new LazyClauseSolver();
-        hold(s, 1, 1, 1, -1);
+        Setup.hold(s, 1, 1, 1, -1);
         s.linear(-2);
         due("12: v0", s.values(0), 3);
         due("12: v2", s.values(2), 3);
@@ -411,7 +378,7 @@ public final class PromiseTest {
         LazyClauseSolver gap = new LazyClauseSolver();
         gap.either(3, 3, 3, 0);
         due("12: a gap", gap.values(3), 9);
-        impossible(gap);
+        Setup.impossible(gap);
         due("12: no solution", gap.values(3), 0);
         due("12: no variable and no solution", gap.values(4), BAD_ARG);
     }
@@ -433,20 +400,20 @@ public final class PromiseTest {
         due("13: just before one", s.after(26), 27);
         due("13: 3 2 1 0 is the last", s.after(227), 228);
         due("13: none after it", s.after(228), NONE);
-        due("13: twenty-four in all", solutions(s), 24);
+        due("13: twenty-four in all", Setup.solutions(s), 24);
     }
 
     private static void smallest() {
         LazyClauseSolver s = new LazyClauseSolver();
-        hold(s, -5, -5, -5, -5);
+        Setup.hold(s, -5, -5, -5, -5);
         due("14: the least of all", s.smallest(), -60);
-        hold(s, 5, 5, 5, 5);
+        Setup.hold(s, 5, 5, 5, 5);
         due("14: with none needed", s.smallest(), 0);
-        hold(s, -1, -1, -1, -1);
+        Setup.hold(s, -1, -1, -1, -1);
         s.linear(-12);
-        hold(s, 5, 5, 5, 5);
+        Setup.hold(s, 5, 5, 5, 5);
         due("14: the greatest of all", s.smallest(), 60);
-        hold(s, 1, 2, -3, 4);
+        Setup.hold(s, 1, 2, -3, 4);
         due("14: each by its own factor", s.smallest(), 12);
         s.clear();
         s.differ(15);
@@ -457,24 +424,24 @@ public final class PromiseTest {
         s.either(3, 1, 2, 2);
         due("14: v3 = 0 no more with v2 = 3: 1*2 + 2*0 - 3*3 + 4*1", s.smallest(), -3);
         due("14: not only the first solution", s.after(-1), 27);
-        impossible(s);
+        Setup.impossible(s);
         due("14: no solution", s.smallest(), NO_SUM);
     }
 
     private static void blame() {
         LazyClauseSolver s = new LazyClauseSolver();
         due("15: nothing to blame", s.blame(), 0);
-        hold(s, 1, 0, 0, 0);
+        Setup.hold(s, 1, 0, 0, 0);
         s.linear(0);
         due("15: a solution", s.blame(), 0);
-        hold(s, -1, 0, 0, 0);
+        Setup.hold(s, -1, 0, 0, 0);
         s.linear(-1);
         due("15: both", s.blame(), 3);
         s.linear(-2);
         due("15: the later of two reasons stays", s.blame(), 5);
         s.differ(15);
         due("15: one that has no part in it", s.blame(), 5);
-        impossible(s);
+        Setup.impossible(s);
         due("15: one that alone cannot be met", s.blame(), 16);
         s.force(4, 0);
         due("15: back to two", s.blame(), 5);
@@ -486,15 +453,15 @@ public final class PromiseTest {
         for (int c = 0; c < 9; c++) {
             full.differ(0);
         }
-        impossible(full);
+        Setup.impossible(full);
         due("15: the tenth", full.blame(), 512);
     }
 
     private static void blameAmongOutOfForce() {
         LazyClauseSolver s = new LazyClauseSolver();
-        impossible(s);
+        Setup.impossible(s);
         s.force(0, 0);
-        hold(s, 1, 1, 1, 1);
+        Setup.hold(s, 1, 1, 1, 1);
         s.linear(5);
         s.differ(15);
         due("15: the one out of force counts for nothing", s.blame(), 6);
@@ -507,7 +474,7 @@ public final class PromiseTest {
     private static void follows() {
         LazyClauseSolver s = new LazyClauseSolver();
         due("16: no constraint yet", s.follows(0), false);
-        hold(s, 1, 0, 0, 0);
+        Setup.hold(s, 1, 0, 0, 0);
         s.linear(1);
         s.linear(2);
         due("16: v0 <= 1 from v0 <= 2", s.follows(0), false);
@@ -525,14 +492,14 @@ public final class PromiseTest {
         due("16: not from itself", s.follows(1), false);
         due("16: out of force and not following", s.follows(0), false);
         due("16: one that always holds", s.follows(s.differ(1)), true);
-        int no = impossible(s);
+        int no = Setup.impossible(s);
         due("16: everything from the impossible", s.follows(0), true);
         due("16: but not the impossible itself", s.follows(no), false);
         s.force(no, 0);
         due("16: nor out of force", s.follows(no), false);
-        hold(s, 0, 0, 0, 1);
+        Setup.hold(s, 0, 0, 0, 1);
         s.linear(1);
-        hold(s, 0, 0, 0, -1);
+        Setup.hold(s, 0, 0, 0, -1);
         s.linear(-2);
         due("16: no solution without it", s.follows(no), true);
         due("16: needed for there being none", s.follows(4), false);
@@ -540,7 +507,7 @@ public final class PromiseTest {
 
     private static void theFirstAssignmentAlone() {
         LazyClauseSolver s = new LazyClauseSolver();
-        hold(s, 1, 1, 1, 1);
+        Setup.hold(s, 1, 1, 1, 1);
         s.linear(0);
         due("9: 0 0 0 0 alone", s.solvable(), true);
         due("13: 0 0 0 0 alone", s.after(-1), 0);
@@ -553,7 +520,7 @@ public final class PromiseTest {
             due("12: 0 0 0 0 alone", s.values(i), 1);
         }
         s.clear();
-        hold(s, -1, -1, -1, -1);
+        Setup.hold(s, -1, -1, -1, -1);
         s.linear(-1);
         due("16: broken by 0 0 0 0 alone", s.follows(0), false);
         s.clear();
@@ -563,7 +530,7 @@ public final class PromiseTest {
 
     private static void theLastAssignmentAlone() {
         LazyClauseSolver s = new LazyClauseSolver();
-        hold(s, -1, -1, -1, -1);
+        Setup.hold(s, -1, -1, -1, -1);
         s.linear(-12);
         due("9: 3 3 3 3 alone", s.solvable(), true);
         due("13: 3 3 3 3 alone", s.after(-1), 255);
@@ -575,58 +542,9 @@ public final class PromiseTest {
             due("12: 3 3 3 3 alone", s.values(i), 8);
         }
         s.clear();
-        hold(s, 1, 1, 1, 1);
+        Setup.hold(s, 1, 1, 1, 1);
         s.linear(11);
         due("16: broken by 3 3 3 3 alone", s.follows(0), false);
-    }
-
-    private static void orderOfRefusals() {
-        LazyClauseSolver s = new LazyClauseSolver();
-        impossible(s);
-        due("17: value, BAD_ARG first", s.value(4), BAD_ARG);
-        due("17: value", s.value(3), NONE);
-        due("17: firstWith, i first", s.firstWith(-1, 0), BAD_ARG);
-        due("17: firstWith, x first", s.firstWith(0, 4), BAD_ARG);
-        due("17: firstWith", s.firstWith(0, 0), NONE);
-        due("17: after, BAD_ARG first", s.after(256), BAD_ARG);
-        due("17: after, below", s.after(-2), BAD_ARG);
-        due("17: after", s.after(255), NONE);
-        due("17: after the start", s.after(-1), NONE);
-        fill(s);
-        due("3: BAD_ARG before FULL", s.linear(61), BAD_ARG);
-        due("4: BAD_ARG before FULL", s.differ(16), BAD_ARG);
-        due("5: BAD_ARG before FULL, i", s.either(4, 0, 0, 0), BAD_ARG);
-        due("5: BAD_ARG before FULL, m", s.either(0, 4, 0, 0), BAD_ARG);
-        due("5: BAD_ARG before FULL, j", s.either(0, 0, 4, 0), BAD_ARG);
-        due("5: BAD_ARG before FULL, n", s.either(0, 0, 0, 4), BAD_ARG);
-        due("3: FULL", s.linear(60), FULL);
-        due("4: FULL", s.differ(15), FULL);
-        due("5: FULL", s.either(3, 3, 3, 3), FULL);
-    }
-
-    private static void refusedCallsChangeNothing() {
-        LazyClauseSolver s = new LazyClauseSolver();
-        hold(s, 1, 1, 0, 0);
-        s.linear(4);
-        s.differ(12);
-        fill(s);
-        s.force(1, 0);
-        int before = solutions(s);
-        s.linear(-60);
-        s.differ(15);
-        s.either(0, 3, 1, 0);
-        s.linear(-61);
-        s.differ(-1);
-        s.either(0, -1, 1, 0);
-        s.force(10, 0);
-        s.force(-1, 1);
-        s.factor(4, 1);
-        s.factor(0, 6);
-        due("refused: constraints", s.constraints(), 10);
-        due("refused: solutions", solutions(s), before);
-        due("refused: out of force", s.force(1, 1), 0);
-        due("refused: in force", s.force(0, 1), 1);
-        due("refused: factor", s.factor(0, 1), 1);
     }
 
     private static void objectsAreApart() {
