@@ -1,3 +1,5 @@
+import java.util.function.IntUnaryOperator;
+
 /** Where a call could be refused for two reasons: which of the two it answers. */
 public final class RefusalOrderTest {
     private static final int BAD_ARG = -1;
@@ -26,37 +28,33 @@ public final class RefusalOrderTest {
         return Setup.tenAllNeeded();
     }
 
+    /** One call after another on the same object: outside the range BAD_ARG, inside it the other code. */
+    private static void badArgFirst(String what, int least, int greatest, IntUnaryOperator call, int inside) {
+        check.due(what + ", just below", call.applyAsInt(least - 1), BAD_ARG);
+        check.due(what + ", the least", call.applyAsInt(least), inside);
+        check.due(what + ", the greatest", call.applyAsInt(greatest), inside);
+        check.due(what + ", just above", call.applyAsInt(greatest + 1), BAD_ARG);
+        for (int far : Setup.FAR) {
+            check.due(what + " = " + far, call.applyAsInt(far), BAD_ARG);
+        }
+    }
+
     // Promise 3: "Tested in this order: b not -60 to 60 answers BAD_ARG; FULL."
     private static void linear() {
         LazyClauseSolver s = fullAndUnsolvable();
-        check.due("3: just below", s.linear(-61), BAD_ARG);
-        check.due("3: the least", s.linear(-60), FULL);
-        check.due("3: the greatest", s.linear(60), FULL);
-        check.due("3: just above", s.linear(61), BAD_ARG);
-        for (int b : Setup.FAR) {
-            check.due("3: b = " + b, s.linear(b), BAD_ARG);
-        }
+        badArgFirst("3: linear, b", -60, 60, s::linear, FULL);
     }
 
     // Promise 4: "Tested in this order: set not 0 to 15 answers BAD_ARG; FULL."
     private static void differ() {
         LazyClauseSolver s = fullAndUnsolvable();
-        check.due("4: just below", s.differ(-1), BAD_ARG);
-        check.due("4: the least", s.differ(0), FULL);
-        check.due("4: the greatest", s.differ(15), FULL);
-        check.due("4: just above", s.differ(16), BAD_ARG);
-        for (int set : Setup.FAR) {
-            check.due("4: set = " + set, s.differ(set), BAD_ARG);
-        }
+        badArgFirst("4: differ, set", 0, 15, s::differ, FULL);
     }
 
     // Promise 5: "Tested in this order: i or j not 0 to 3, or m or n not 0 to 3 answers BAD_ARG; FULL."
     private static void either() {
         LazyClauseSolver s = fullAndUnsolvable();
-        check.due("5: just below", s.either(-1, -1, -1, -1), BAD_ARG);
-        check.due("5: the least", s.either(0, 0, 0, 0), FULL);
-        check.due("5: the greatest", s.either(3, 3, 3, 3), FULL);
-        check.due("5: just above", s.either(4, 4, 4, 4), BAD_ARG);
+        badArgFirst("5: either, all four", 0, 3, x -> s.either(x, x, x, x), FULL);
     }
 
     private static void eitherOneBadAmongFour() {
@@ -75,29 +73,16 @@ public final class RefusalOrderTest {
     // Promise 17: "value ...: BAD_ARG is tested before NONE."
     private static void value() {
         LazyClauseSolver s = fullAndUnsolvable();
-        check.due("17: value, just below", s.value(-1), BAD_ARG);
-        check.due("17: value, the least", s.value(0), NONE);
-        check.due("17: value, the greatest", s.value(3), NONE);
-        check.due("17: value, just above", s.value(4), BAD_ARG);
-        for (int i : Setup.FAR) {
-            check.due("17: value, i = " + i, s.value(i), BAD_ARG);
-        }
+        badArgFirst("17: value, i", 0, 3, s::value, NONE);
     }
 
     // Promise 17: "firstWith ...: BAD_ARG is tested before NONE."
     private static void firstWith() {
         LazyClauseSolver s = fullAndUnsolvable();
         for (int good = 0; good <= 3; good += 3) {
-            check.due("17: firstWith, i just below", s.firstWith(-1, good), BAD_ARG);
-            check.due("17: firstWith, i just above", s.firstWith(4, good), BAD_ARG);
-            check.due("17: firstWith, x just below", s.firstWith(good, -1), BAD_ARG);
-            check.due("17: firstWith, x just above", s.firstWith(good, 4), BAD_ARG);
-            check.due("17: firstWith, both inside", s.firstWith(good, 3 - good), NONE);
-            check.due("17: firstWith, both alike", s.firstWith(good, good), NONE);
-        }
-        for (int far : Setup.FAR) {
-            check.due("17: firstWith, i = " + far, s.firstWith(far, 0), BAD_ARG);
-            check.due("17: firstWith, x = " + far, s.firstWith(0, far), BAD_ARG);
+            int other = good;
+            badArgFirst("17: firstWith, i", 0, 3, i -> s.firstWith(i, other), NONE);
+            badArgFirst("17: firstWith, x", 0, 3, x -> s.firstWith(other, x), NONE);
         }
     }
 
@@ -115,13 +100,7 @@ public final class RefusalOrderTest {
     // Promise 17: "after: BAD_ARG is tested before NONE."
     private static void after() {
         LazyClauseSolver s = fullAndUnsolvable();
-        check.due("17: after, just below", s.after(-2), BAD_ARG);
-        check.due("17: after, the least", s.after(-1), NONE);
-        check.due("17: after, the greatest", s.after(255), NONE);
-        check.due("17: after, just above", s.after(256), BAD_ARG);
-        for (int from : Setup.FAR) {
-            check.due("17: after, from = " + from, s.after(from), BAD_ARG);
-        }
+        badArgFirst("17: after, from", -1, 255, s::after, NONE);
         LazyClauseSolver solvable = new LazyClauseSolver();
         check.due("17: after the last of all", solvable.after(255), NONE);
         check.due("17: after that", solvable.after(256), BAD_ARG);
@@ -130,10 +109,7 @@ public final class RefusalOrderTest {
     // Promise 12: "BAD_ARG if i is not 0 to 3", whether there is a solution or not.
     private static void valuesWithNoSolution() {
         LazyClauseSolver s = fullAndUnsolvable();
-        check.due("12: just below", s.values(-1), BAD_ARG);
-        check.due("12: the least", s.values(0), 0);
-        check.due("12: the greatest", s.values(3), 0);
-        check.due("12: just above", s.values(4), BAD_ARG);
+        badArgFirst("12: values, i", 0, 3, s::values, 0);
     }
 
     // Promise 2 names BAD_ARG alone: ten constraints are no reason to refuse a factor.
