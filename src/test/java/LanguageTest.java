@@ -4,7 +4,10 @@ import java.lang.reflect.Method;
 import java.lang.reflect.Modifier;
 import java.nio.file.Files;
 import java.nio.file.Path;
+import java.util.Map;
 import java.util.Set;
+import java.util.TreeMap;
+import java.util.TreeSet;
 import java.util.regex.Matcher;
 import java.util.regex.Pattern;
 
@@ -22,6 +25,11 @@ public final class LanguageTest {
     private static final int MOST_LINES = 60;
     private static final int MOST_FIELDS = 40;
     private static final int MOST_PARAMETERS = 7;
+    private static final int MOST_DEEP = 6;
+    private static final Set<String> NOT_CALLS = Set.of("if", "for", "while", "switch", "return");
+    private static final Pattern METHOD =
+        Pattern.compile("(?ms)^    (?:public|private)[^;=]*?(\\w+)\\([^)]*\\) \\{$(.*?)^    \\}$");
+    private static final Pattern CALL = Pattern.compile("\\b(\\w+)\\s*\\(");
 
     private static final Check check = new Check("LanguageTest");
 
@@ -30,6 +38,8 @@ public final class LanguageTest {
         forbiddenWords(code);
         arraysMadeInFields(code);
         shortMethods(code);
+        ownCallsAlone(code);
+        callsInArguments(code);
         fields();
         methods();
         check.end();
@@ -58,13 +68,67 @@ public final class LanguageTest {
 
     // Rule 10: a method ends with the first closing brace at its own indentation.
     private static void shortMethods(String code) {
-        Matcher method = Pattern.compile("(?ms)^    (?:public|private)[^;=]*?\\{$(.*?)^    \\}$").matcher(code);
+        Matcher method = METHOD.matcher(code);
         int found = 0;
         while (method.find()) {
             found++;
-            check.due("a method short enough", method.group().lines().count() <= MOST_LINES, true);
+            check.due(method.group(1) + " is short enough", method.group().lines().count() <= MOST_LINES, true);
         }
-        check.due("methods found", found > 0, true);
+        int there = LazyClauseSolver.class.getDeclaredMethods().length + 1;
+        check.due("methods and the constructor found in the text", found, there);
+    }
+
+    private static Set<String> callsIn(String code) {
+        Set<String> calls = new TreeSet<>();
+        CALL.matcher(code).results().map(call -> call.group(1))
+            .filter(name -> !NOT_CALLS.contains(name)).forEach(calls::add);
+        return calls;
+    }
+
+    private static Map<String, Set<String>> callsOfEachMethod(String code) {
+        Map<String, Set<String>> calls = new TreeMap<>();
+        METHOD.matcher(code).results().forEach(method -> calls.put(method.group(1), callsIn(method.group(2))));
+        return calls;
+    }
+
+    // Rules 3, 8, 10: nothing but own methods is called, never in a circle, and not too deep.
+    private static void ownCallsAlone(String code) {
+        Map<String, Set<String>> calls = callsOfEachMethod(code);
+        Set<String> level = new TreeSet<>(calls.keySet());
+        int deep = 0;
+        // Each round goes one call deeper; a circle would never run out, so the rounds are bounded.
+        while (!level.isEmpty() && deep <= MOST_DEEP) {
+            Set<String> next = new TreeSet<>();
+            for (String name : level) {
+                check.due(name + " is an own method", calls.containsKey(name), true);
+                next.addAll(calls.getOrDefault(name, Set.of()));
+            }
+            level = next;
+            deep++;
+        }
+        check.due("calls deeper than " + MOST_DEEP + ": " + level, level.size(), 0);
+    }
+
+    // Rule 10: no call stands inside the arguments of another call.
+    private static void callsInArguments(String code) {
+        Matcher method = METHOD.matcher(code);
+        while (method.find()) {
+            String body = method.group(2);
+            CALL.matcher(body).results().filter(call -> !NOT_CALLS.contains(call.group(1))).forEach(call -> {
+                String what = "calls in the arguments of " + call.group(1) + " in " + method.group(1);
+                check.due(what, callsIn(argumentsFrom(body, call.end())).size(), 0);
+            });
+        }
+    }
+
+    private static String argumentsFrom(String body, int start) {
+        int open = 1;
+        int at = start;
+        while (open > 0 && at < body.length()) {
+            open += body.charAt(at) == '(' ? 1 : body.charAt(at) == ')' ? -1 : 0;
+            at++;
+        }
+        return body.substring(start, at);
     }
 
     // Rules 2, 5, 10.
